@@ -450,7 +450,7 @@ public final class ElectingWind {
             }
             trial.end();
             int who = trial.whoIsInLast();
-            if (who != NONE) {
+            if (who >= 0 && who < MOST_CANDIDATES) {
                 chances[who] += weights[minutes];
             }
         }
@@ -863,7 +863,7 @@ public final class ElectingWind {
 
         /** Beyond the edge nothing is a wall. */
         boolean isWall(int cell) {
-            return isCell(cell) && wall[cell] == 1;
+            return cell >= 0 && cell < cells && cell < MOST_CELLS && wall[cell] == 1;
         }
 
         /** The cell beside one, on a way; NONE: the edge. */
