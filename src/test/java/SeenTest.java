@@ -60,10 +60,26 @@ public final class SeenTest {
         x.put(1, 2, 0, -1);
         c.due("read: the first is BAD", x.read(1), 0);
         x.forget();
+        readInPairs();
         x.sheet(2, 0, 60);
         c.due("read up to FULL", x.read(2), 8);
         c.due("read when FULL", x.read(2), 0);
         c.due("read leaves the SHEET", x.lose(2), 60);
+    }
+
+    /** Behind minute 0 nobody is in, behind 1 the candidate 0, behind 2 the candidate 1, unless minute 3 is calm. */
+    private static void readInPairs() {
+        int[][] all = {{0, 8, 1, 0, 2, 1}, {0, 8, 1, 0, 2, 0}, {0, 8, 1, 8, 2, 1}, {0, 8, 2, 1, 1, 0}};
+        int[] gusts = {36, 4, 0, 36};
+        int[] ribs = {2 + 4, 0, 64 + 128 + 256 + 512, 2 + 4};
+        for (int k = 0; k < all.length; k++) {
+            ElectingWind x = Checks.told("..", "n0n3n9n9", "001o;015o");
+            x.sheet(0, 2, 6);
+            for (int i = 0; i < 6; i++) x.put(0, 2, i, all[k][i]);
+            c.due("read(0) of " + k, x.read(0), 3);
+            c.due("blew(3, NONE) of " + k, x.blew(3, NONE), gusts[k]);
+            c.due("had(0) of " + k, x.had(0), ribs[k]);
+        }
     }
 
     private static void blew() {
@@ -176,6 +192,10 @@ public final class SeenTest {
         chance(Checks.told(".", "n9n8n7n6n5n4n3n2n2", "009o"), 3, 0, 19683, 1L << 36);
         chance(Checks.told(".", "", "001o"), 8, 0, 0, 1);
         chance(Checks.told("", "n9", "001o"), 8, 0, 0, 1);
+        chance(two, 16, 1, 1, 1);
+        Checks.tell(two, 1, "n3n3");
+        chance(two, 0, 1, 0, 1);
+        chance(two, 16, 1, 0, 1);
         c.due("calm leaves the gusts", twelve.gust(11, 1), 9);
         c.due("calm(17, 0, 0)", x.calm(17, 0, 0), NO);
         c.due("calm(-1, 0, 0)", x.calm(-1, 0, 0), NO);

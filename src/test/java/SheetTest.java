@@ -1,3 +1,6 @@
+import java.util.ArrayList;
+import java.util.List;
+
 /** Promises 27 to 34: sheets, counts, the digest. */
 public final class SheetTest {
     private static final int NONE = ElectingWind.NONE, BAD = ElectingWind.BAD;
@@ -219,6 +222,36 @@ public final class SheetTest {
             1, 2, -1, 0, 13, 0, 0, 0, 1,
             0, 1, 1, 1, 0, 1, 0, 0, 0, 0, -1, NONE, 1022, 0, 1,
             -1, -1, 2, 0, NONE, who, many);
+        digestByCalls("...;#.#;...;.#.", "n9w5n0e7s8", "015o;049x;074h;032o;099o");
+        digestByCalls("#.#;...;.#.;...", "e5s7n9n2", "013o;044x;072o;103h;115o");
+        digestByCalls(".....;.....;..#..;.....;.....", "n2e3s4w5", "005o;064h;123x;189o");
+    }
+
+    /** In a scene in which hardly two answers are alike, from the answers themselves, in the order told. */
+    private static void digestByCalls(String corner, String gusts, String candidates) {
+        ElectingWind x = Checks.told(corner, gusts, candidates);
+        x.seen(0, x.in(0) == NONE ? 8 : x.in(0));
+        List<Long> all = new ArrayList<>();
+        for (int what = 0; what <= 7; what++) all.add((long) x.count(what));
+        for (int text = 0; text <= 2; text++) all.add((long) x.fault(text));
+        for (int cell = 0; cell < x.count(0); cell++) all.add((long) x.cell(cell));
+        for (int m = 0; m < x.count(1); m++) {
+            int[] of = {x.gust(m, 0), x.gust(m, 1), x.in(m), x.ask(m), x.blew(m, NONE), x.blew(m, 0)};
+            for (int v : of) all.add((long) v);
+            for (int cell = 0; cell < x.count(0); cell++) all.add((long) x.wind(m, cell));
+            for (int k = 0; k < x.count(2); k++) all.add((long) x.ribs(m, k));
+        }
+        for (int k = 0; k < x.count(2); k++) {
+            int[] of = {x.candidate(k, 0), x.candidate(k, 1), x.candidate(k, 2), x.candidate(k, 3), x.overturns(k, 0),
+                x.overturns(k, 1), x.overturns(k, 2), x.overturns(k, 3), x.stand(k, 0), x.stand(k, 1), x.shield(k),
+                x.bribe(k), x.had(k)};
+            for (int v : of) all.add((long) v);
+            all.add(x.calm(5, k, 0));
+            all.add(x.calm(5, k, 1));
+        }
+        int[] of = {x.first(0), x.first(1), x.lulls(), x.move(0), x.move(1), x.weather(7, 9, 0), x.weather(7, 9, 1)};
+        for (int v : of) all.add((long) v);
+        digestOf(x, all.stream().mapToLong(Long::longValue).toArray());
     }
 
     public static void main(String[] args) {

@@ -139,6 +139,9 @@ public final class WindTest {
         x = Checks.told("..", "n3n0n9", "005o;011o");
         c.due("first(0), the first one returned", x.first(0), 2);
         c.due("first(1), the first one returned", x.first(1), 0);
+        x = Checks.told("..", "n9n9", "005o;011o");
+        c.due("first(0), in the very first", x.first(0), 0);
+        c.due("first(1), in the very first", x.first(1), 1);
         x = Checks.told("..", "n3n0", "005o;011o");
         c.due("first(0): none", x.first(0), NONE);
         c.due("first(1): none", x.first(1), NONE);
