@@ -966,12 +966,17 @@ public final class ElectingWind {
             int turning = 0;
             for (int candidate = 0; candidate < scene.candidates && candidate < MOST_CANDIDATES; candidate++) {
                 int left = ribs[minute * MOST_CANDIDATES + candidate];
-                if (has(fresh, candidate)) {
-                    back |= windOn(minute, scene.at[candidate]) == 0 ? 1 << candidate : 0;
-                } else if (has(somewhere & ~ahead, candidate)) {
-                    int strain = strainOf(windOn(minute, scene.at[candidate]), scene.held[candidate]);
-                    turning |= strain > left ? 1 << candidate : 0;
-                    left -= strain == left && left > 1 ? 1 : 0;
+                int wind = windOn(minute, scene.at[candidate]);
+                int strain = strainOf(wind, scene.held[candidate]);
+                boolean strained = has(somewhere & ~ahead, candidate);
+                if (has(fresh, candidate) && wind == 0) {
+                    back |= 1 << candidate;
+                }
+                if (strained && strain > left) {
+                    turning |= 1 << candidate;
+                }
+                if (strained && strain == left && left > 1) {
+                    left--;
                 }
                 ribs[(minute + 1) * MOST_CANDIDATES + candidate] = left;
             }
