@@ -343,7 +343,7 @@ public final class ElectingWind {
         }
         inquire(minute);
         int best = 0;
-        for (int other = 1; other < told.scene.minutes; other++) {
+        for (int other = 1; other < told.scene.minutes && other < MOST_MINUTES; other++) {
             if (greatestTally(other) < greatestTally(best)) {
                 best = other;
             }
@@ -414,7 +414,7 @@ public final class ElectingWind {
     }
 
     private void tallyTrial() {
-        for (int minute = 0; minute < trial.scene.minutes; minute++) {
+        for (int minute = 0; minute < trial.scene.minutes && minute < MOST_MINUTES; minute++) {
             int who = trial.whoIsIn(minute);
             int column = who == NONE ? NOBODY : who;
             tallies[minute * (NOBODY + 1) + column]++;
@@ -438,7 +438,7 @@ public final class ElectingWind {
         trial.scene.tellAs(told.scene);
         trial.start();
         weights[0] = 1L;
-        int minutes = told.scene.minutes;
+        int minutes = Math.min(told.scene.minutes, MOST_MINUTES);
         for (int pattern = 0; pattern < 1 << minutes; pattern++) {
             // Minute 0 is the highest bit, so that most patterns share their beginning with the one before.
             int changed = pattern == 0 ? 0 : minutes - 1 - lowestBit(pattern);
@@ -631,11 +631,11 @@ public final class ElectingWind {
     }
 
     private boolean isMinute(int minute) {
-        return minute >= 0 && minute < told.scene.minutes;
+        return minute >= 0 && minute < told.scene.minutes && minute < MOST_MINUTES;
     }
 
     private boolean isCandidate(int candidate) {
-        return candidate >= 0 && candidate < told.scene.candidates;
+        return candidate >= 0 && candidate < told.scene.candidates && candidate < MOST_CANDIDATES;
     }
 
     private int finding(int number) {
