@@ -390,7 +390,7 @@ public final class ElectingWind {
         return 1103515245 * seed + 12345;
     }
 
-    /** Tries all gusts of a minute: which may have blown, and who would be in behind each minute. */
+    /** blew() and ask() go through the same forty gusts, so one trial of them answers both. */
     private void inquire(int minute) {
         if (inquiredMinute == minute || !isMinute(minute)) {
             return;
@@ -429,7 +429,7 @@ public final class ElectingWind {
         return greatest;
     }
 
-    /** Adds up, for each candidate, the weights of all calms behind which it is in. */
+    /** All candidates are weighed at once, as the calms are the same for each of them. */
     private void weighCalms(int c) {
         if (weighedCalm == c) {
             return;
@@ -643,7 +643,7 @@ public final class ElectingWind {
         return -10 - number;
     }
 
-    /** Takes in a text that has changed, and what comes of it. */
+    /** Texts change more seldom than they are asked about, so all that hangs on them is run here. */
     private void retell(int text) {
         if (text == CORNER) {
             faults[CORNER] = told.scene.readCorner(texts[CORNER]);
@@ -657,7 +657,7 @@ public final class ElectingWind {
         weighedCalm = NONE;
     }
 
-    /** The bytes of a text, up to a limit. */
+    /** A text. Its bytes are kept as ints, as they come without a sign (0 to 255). */
     private static final class Script {
         private final int[] bytes = new int[MOST_BYTES];
         private final int most;
@@ -691,7 +691,7 @@ public final class ElectingWind {
         }
     }
 
-    /** The corner, the gusts and the candidates, as they are told. */
+    /** What the texts tell, apart from them, so that a trial can change it without typing. */
     private static final class Scene {
         int columns = 0;
         int cells = 0;
@@ -722,7 +722,7 @@ public final class ElectingWind {
             System.arraycopy(other.held, 0, held, 0, MOST_CANDIDATES);
         }
 
-        /** The text's fault; with one there are no cells. */
+        /** The text's fault; with one the text is as if it was empty. */
         int readCorner(Script text) {
             columns = 0;
             cells = 0;
@@ -769,7 +769,7 @@ public final class ElectingWind {
             }
         }
 
-        /** The text's fault; with one there are no gusts. A thirteenth finds no room in the text. */
+        /** The text's fault; with one the text is as if it was empty. A thirteenth gust finds no room in it. */
         int readGusts(Script text) {
             minutes = 0;
             int length = text.length();
@@ -793,7 +793,7 @@ public final class ElectingWind {
             return NONE;
         }
 
-        /** The text's fault; with one there are no candidates. A ninth finds no room in the text. */
+        /** The text's fault; with one the text is as if it was empty. A ninth candidate finds no room in it. */
         int readCandidates(Script text) {
             candidates = 0;
             int length = text.length();
@@ -809,7 +809,7 @@ public final class ElectingWind {
             return NONE;
         }
 
-        /** Whether a byte can be part 0 to 4 of a candidate: two figures, ribs, how it is held, the ; behind. */
+        /** With the ; behind it a candidate is five bytes, so a byte's place tells which part (0 to 4) it must be. */
         private boolean readOfCandidate(int candidate, int part, int b) {
             if (candidate < 0 || candidate >= MOST_CANDIDATES) {
                 return false;
@@ -902,7 +902,7 @@ public final class ElectingWind {
         }
     }
 
-    /** All minutes of a scene, one behind the other, with what happens in them. Sets of candidates are bits. */
+    /** What happens in the minutes of a scene. Sets of candidates are bits, so that a lee is found by one test. */
     private static final class Course {
         final Scene scene = new Scene();
         private int somewhere = 0;
@@ -920,7 +920,7 @@ public final class ElectingWind {
             runOnFrom(0);
         }
 
-        /** Runs again from a minute on, when what is ahead of it has been run. */
+        /** What is ahead of the first minute must have been run: it is not run again. */
         void runOnFrom(int first) {
             for (int minute = Math.max(0, first); minute < scene.minutes; minute++) {
                 pass(minute);
@@ -928,7 +928,7 @@ public final class ElectingWind {
             end();
         }
 
-        /** The minute in which the candidate's umbrella turns, behind which nothing is run; NONE. */
+        /** The minute in which the candidate's umbrella turns; NONE. Nothing behind it can matter, so it is not run. */
         int runUntilTurned(int candidate) {
             start();
             for (int minute = 0; minute < scene.minutes && minute < MOST_MINUTES; minute++) {
@@ -940,7 +940,6 @@ public final class ElectingWind {
             return NONE;
         }
 
-        /** Places the candidates, as they are ahead of minute 0. */
         void start() {
             Arrays.fill(standing, 0);
             somewhere = 0;
@@ -955,7 +954,7 @@ public final class ElectingWind {
             }
         }
 
-        /** One minute: who turns in it, and, by its wind, who of the minute ahead is returned and elected. */
+        /** Only the next minute's wind tells who is returned, so the election of the minute ahead is held here. */
         void pass(int minute) {
             if (minute < 0 || minute >= scene.minutes || minute >= MOST_MINUTES) {
                 return;
@@ -998,7 +997,7 @@ public final class ElectingWind {
             return held == ACROSS ? 2 * wind : wind;
         }
 
-        /** Of those whose umbrella turned in a minute and who are not back: who is elected, and so in. */
+        /** Who is back, that is, returned, is not elected. */
         private void elect(int minute, int back) {
             if (minute < 0 || minute >= MOST_MINUTES) {
                 return;
@@ -1046,12 +1045,11 @@ public final class ElectingWind {
             return has(somewhere, candidate);
         }
 
-        /** Whether a cell is open and nobody stands on it. */
         boolean isFree(int cell) {
             return scene.isCell(cell) && !scene.isWall(cell) && standing[cell] == 0;
         }
 
-        /** Whether a cell is open and no other one than the candidate stands on it. */
+        /** One may stay where one stands already. */
         boolean isFreeFor(int candidate, int cell) {
             return scene.isCell(cell) && !scene.isWall(cell) && (standing[cell] & ~(1 << candidate)) == 0;
         }
@@ -1137,7 +1135,7 @@ public final class ElectingWind {
         }
     }
 
-    /** A row of a form, or none: it is lost. */
+    /** A sheet keeps its row when it is lost, so that a new one makes no object. */
     private static final class Sheet {
         int form = NONE;
         int size = 0;
@@ -1158,7 +1156,7 @@ public final class ElectingWind {
             size = 0;
         }
 
-        /** The finding that stands against item i, treated as of a form; 0: none. */
+        /** The finding against item i, treated as of a form; 0: none. Of several the one that put() and get() tell first. */
         int hindrance(int asForm, int i) {
             if (isLost()) {
                 return NULL;

@@ -16,7 +16,8 @@ final class Checks {
             return;
         }
         failed++;
-        System.out.println(name + ", promise " + promise + ": " + call + " answered " + got + ", due is " + want);
+        String of = promise == 0 ? "" : ", promise " + promise;
+        System.out.println(name + of + ": " + call + " answered " + got + ", due is " + want);
     }
 
     void end() {

@@ -146,7 +146,7 @@ public final class OracleTest {
     }
 
     public static void main(String[] args) {
-        for (int run = 0; run < RUNS; run++) new OracleTest(run).run(run % 50 == 0 ? 9 : 6);
+        for (int run = 0; run < RUNS; run++) new OracleTest(run).run(run % 50 == 0 ? 12 : 6);
         System.out.println("OracleTest: " + passed + " answers are as due, " + failed + " are not");
         if (failed != 0) System.exit(1);
     }
